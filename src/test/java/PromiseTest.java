@@ -153,6 +153,7 @@ public final class PromiseTest {
         x.die(0);
         x.reading(0, 0, 1);
         x.tell(0);
+        x.kinds(0);
         due("a fault changes nothing", take(x, "w4;p1;"), -106);
         due("DEAD", x.many(2), 1);
         due("READINGS", x.many(4), 1);
@@ -391,6 +392,8 @@ public final class PromiseTest {
             x.cut(c);
             due("DARK by CUT " + c, x.steadiest(2), darkOfFive[c - 1]);
         }
+        x.level(0, 8);
+        due("DARK by it, of a LEVEL told anew", x.steadiest(1), 3);
         take(x, "w8;p81;b36");
         due("DARK of all", x.steadiest(2), 38);
         due("STEADIEST", x.steadiest(0), 1);
@@ -472,6 +475,8 @@ public final class PromiseTest {
         dayIs(x, 8, 1, 26, NONE, 2, 7 + 14 + 11 + 2, 8, 8);
         dayIs(x, 6, 3, -102, 2, -102, -102, -102, -102);
         dayIs(x, 12, 1, -100, 0, -100, -100, -100, -100);
+        fill(x, 0, 0, 0, 30);
+        due("MODULE 0 dies", x.day(0, 0, 0, 1, 0), 13);
         due("LEVEL of the last", x.day(1, 2, 8, 1, 13), 9);
         due("LEVEL of no LAMP", x.day(1, 2, 8, 1, 14), NONE);
         due("LEVEL of no LAMP", x.day(1, 2, 8, 1, 25), NONE);
@@ -624,6 +629,9 @@ public final class PromiseTest {
         x.back(3);
         x.reading(0, 0, 1);
         due("PLANE 3 is in unit 0 by all", x.cuts(), 0);
+        x.level(0, 8);
+        due("by a LEVEL told anew", x.cuts(), 510);
+        x.level(0, 4);
         due("CUT stays", x.many(5), 3);
         due("the FRAME stays", x.ofLamp(0, 5), set(3, 4, 5, 12));
     }
