@@ -916,9 +916,10 @@ public final class LampWall {
         }
 
         int litUnits(int l) {
+            int light = lightOf(l);
             int set = 0;
             for (int t = 0; t < UNITS; t++) {
-                if (isLit(l, t)) {
+                if (hasBit(light, planeOf[t])) {
                     set |= 1 << t;
                 }
             }

@@ -10,7 +10,9 @@ import java.nio.file.Path;
 import java.util.ArrayList;
 import java.util.Arrays;
 import java.util.List;
+import java.util.Map;
 import java.util.Set;
+import java.util.TreeMap;
 import java.util.TreeSet;
 import java.util.regex.Matcher;
 import java.util.regex.Pattern;
@@ -37,8 +39,12 @@ public final class FormTest {
     };
 
     private static final String IMPORTS = "import java\\.util\\.(\\*|Arrays|ArrayList|List|Iterator);";
+    /** Indented, its name, its lines up to the brace below its beginning. */
+    private static final Pattern METHOD = Pattern.compile(
+        "(?m)^( {4}| {8})\\w[^;={}]*?(\\w+)\\([^;{}]*\\) \\{(?s:(.*?))^\\1\\}");
     /** The rules say 'some twelve', 'some twenty', 'some sixty'. */
     private static final int CLASSES_MOST = 13, FIELDS_MOST = 22, LINES_MOST = 65;
+    private static final int CALLS_DEEP_MOST = 8;
     /** All calls of one run live in one room of so many fields and elements. */
     private static final long ELEMENTS_OF_ROOM = 7_300_000;
     private static final int BYTES_OF_ELEMENT_MOST = 8;
@@ -158,6 +164,7 @@ public final class FormTest {
             check(!line.startsWith("import") || line.matches(IMPORTS), line);
         }
         checkLengths(code);
+        checkDepth(code);
     }
 
     private static void checkLengths(String code) {
@@ -175,6 +182,39 @@ public final class FormTest {
                 indent = " {4}";
             }
         }
+    }
+
+    /** How deep calls that are no recursion go, by names: methods that share one are taken as one. */
+    private static void checkDepth(String code) {
+        Map<String, Set<String>> calls = new TreeMap<>();
+        Matcher method = METHOD.matcher(code);
+        while (method.find()) {
+            Set<String> called = calls.computeIfAbsent(method.group(2), name -> new TreeSet<>());
+            Matcher call = Pattern.compile("(\\w+)\\(").matcher(method.group(3));
+            while (call.find()) {
+                called.add(call.group(1));
+            }
+        }
+        for (String line : FACE) {
+            String name = line.substring(line.indexOf(' ') + 1, line.indexOf('('));
+            List<String> deepest = deepestFrom(name, calls, new ArrayList<>());
+            check(!deepest.isEmpty(), "no source was found of " + name);
+            check(deepest.size() <= CALLS_DEEP_MOST, "calls go too deep: " + deepest);
+        }
+    }
+
+    private static List<String> deepestFrom(String name, Map<String, Set<String>> calls, List<String> ahead) {
+        if (!calls.containsKey(name) || ahead.contains(name)) {
+            return ahead;
+        }
+        List<String> path = new ArrayList<>(ahead);
+        path.add(name);
+        List<String> deepest = path;
+        for (String called : calls.get(name)) {
+            List<String> further = deepestFrom(called, calls, path);
+            deepest = further.size() > deepest.size() ? further : deepest;
+        }
+        return deepest;
     }
 
     /** What the calls of one object make, the dearest ones among them, is within the room. */

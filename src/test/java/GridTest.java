@@ -8,6 +8,7 @@ import java.util.List;
 public final class GridTest {
     private static final int MIN = Integer.MIN_VALUE, MAX = Integer.MAX_VALUE;
     private static final int SHOWN_MOST = 20, BEHIND_MOST = 20;
+    private static final int STATES = 6;
     /** No Whole asks more than this. */
     private static final int CALLS_OF_WHOLE = 350;
     private static final List<String> CHANGING = List.of("wall", "level", "die", "cut", "send", "reading", "back",
@@ -40,7 +41,7 @@ public final class GridTest {
     }
 
     public static void main(String[] args) {
-        for (int state = 0; state < 4; state++) {
+        for (int state = 0; state < STATES; state++) {
             GridTest grid = new GridTest(state);
             for (String name : Calls.NAMES) {
                 grid.anew();
@@ -136,7 +137,9 @@ public final class GridTest {
             case 0: break;
             case 1: withSheetsAlone(); break;
             case 2: withSmallWall(); break;
-            default: withFullWall(); break;
+            case 3: withFullWall(); break;
+            case 4: withWallMadeAnew(); break;
+            default: withAllDead(); break;
         }
     }
 
@@ -178,5 +181,33 @@ public final class GridTest {
         compare("sheet", 1, 2, 60);
         compare("put", 1, 59, 3);
         fill(2, 2, 4, 15, 0, 33);
+    }
+
+    /** The WALL ahead of it had more of all, and all that is told of it. */
+    private void withWallMadeAnew() {
+        take(0, 0, "w8;b9876;h5432;p1098;b7654");
+        for (int m = 0; m < 4; m++) {
+            compare("die", m);
+        }
+        for (int t = 0; t < 8; t++) {
+            compare("reading", t, 15 - t, 1);
+        }
+        compare("tell", 0);
+        take(0, 0, "w2;h8;p41");
+        fill(1, 1, 5, 1, 4, 20, 0, 31);
+        compare("wall", 1, 1, 0, 6);
+        compare("cell", 1, 0, 2);
+    }
+
+    private void withAllDead() {
+        take(1, 1, "w5;b37;h6;p915");
+        compare("reading", 0, 3, 1);
+        for (int m = 0; m < 3; m++) {
+            compare("die", m);
+        }
+        compare("reading", 14, 5, 0);
+        fill(0, 0, 7, 5, 0, 32);
+        fill(2, 2, 3, 3, 9, 9, 9, 9, 9);
+        compare("send", 2, 1, 0, 7);
     }
 }
